@@ -3,7 +3,7 @@ public final class Breakpoint {
     private static final int MOST_VALUES = 120;
     private static final int LONGEST_RUN = 40;
     private static final int LONGEST_WINDOW = 120;
-    /** How far a value, a step or a target may lie from 0; the most that a slack, an allowance or a forgetting may be. */
+    /** Bounds values, steps and targets on both sides of 0, and slack, allowance and forgetting above. */
     private static final int GREATEST_AMOUNT = 1000;
     /** The most that a threshold, a limit or a penalty may be. */
     private static final int GREATEST_LIMIT = 100000;
@@ -31,7 +31,7 @@ public final class Breakpoint {
         alarmList = new AlarmList();
         sums = new CumulativeSums();
         test = new PageHinkley();
-        segmentCosts = new SegmentCosts(values);
+        segmentCosts = new SegmentCosts();
         leastCosts = new LeastCosts();
         bestSearch = new BestSearch();
         best = new Cutting();
@@ -146,13 +146,12 @@ public final class Breakpoint {
 
     public int cost(int from, int to) throws IndexOutOfBoundsException {
         requireIndex(isSegment(from, to));
-        segmentCosts.learn(to);
-        return segmentCosts.of(from, to);
+        return learntCosts().of(from, to);
     }
 
     public int middle(int from, int to) throws IndexOutOfBoundsException {
         requireIndex(isSegment(from, to));
-        return segmentCosts.middleOf(from, to);
+        return segmentCosts.middleOf(values, from, to);
     }
 
     public int changes() {
@@ -172,8 +171,7 @@ public final class Breakpoint {
     public int leastCost(int changes) throws IllegalArgumentException, IllegalStateException {
         requireArgument(isBetween(changes, 0, MOST_VALUES - 1));
         requireState(changes < valueCount);
-        segmentCosts.learn(valueCount);
-        leastCosts.learn(segmentCosts, valueCount);
+        leastCosts.learn(learntCosts(), valueCount);
         return leastCosts.of(changes, valueCount);
     }
 
@@ -233,20 +231,25 @@ public final class Breakpoint {
         greedy.stands = false;
     }
 
+    private SegmentCosts learntCosts() {
+        segmentCosts.learn(values, valueCount);
+        return segmentCosts;
+    }
+
     private Cutting bestCutting() {
         if (!best.stands) {
-            segmentCosts.learn(valueCount);
-            bestSearch.find(segmentCosts, valueCount, penalty, best);
-            best.settle(segmentCosts, valueCount, penalty);
+            SegmentCosts costs = learntCosts();
+            bestSearch.find(costs, valueCount, penalty, best);
+            best.settle(costs, valueCount, penalty);
         }
         return best;
     }
 
     private Cutting greedyCutting() {
         if (!greedy.stands) {
-            segmentCosts.learn(valueCount);
-            GreedySearch.find(segmentCosts, valueCount, penalty, greedy);
-            greedy.settle(segmentCosts, valueCount, penalty);
+            SegmentCosts costs = learntCosts();
+            GreedySearch.find(costs, valueCount, penalty, greedy);
+            greedy.settle(costs, valueCount, penalty);
         }
         return greedy;
     }
@@ -447,13 +450,11 @@ public final class Breakpoint {
      * cost once learnt stays right until all values are removed.
      */
     private static final class SegmentCosts {
-        private final int[] values;
         private final int[] costs;
         private final int[] sorted;
         private int learnt;
 
-        SegmentCosts(int[] ofValues) {
-            values = ofValues;
+        SegmentCosts() {
             costs = new int[triangle(MOST_VALUES)];
             sorted = new int[MOST_VALUES];
             learnt = 0;
@@ -468,9 +469,9 @@ public final class Breakpoint {
             learnt = 0;
         }
 
-        void learn(int end) {
+        void learn(int[] values, int end) {
             for (int to = learnt + 1; to <= end; to++) {
-                learnSegmentsTo(to);
+                learnSegmentsTo(values, to);
                 learnt = to;
             }
         }
@@ -479,14 +480,14 @@ public final class Breakpoint {
             return costs[triangle(to - 1) + from];
         }
 
-        int middleOf(int from, int to) {
+        int middleOf(int[] values, int from, int to) {
             for (int number = from; number < to; number++) {
                 sortIn(values[number], number - from);
             }
             return sorted[(to - from - 1) / 2];
         }
 
-        private void learnSegmentsTo(int to) {
+        private void learnSegmentsTo(int[] values, int to) {
             int row = triangle(to - 1);
             int cost = 0;
             for (int from = to - 1; from >= 0; from--) {
@@ -523,7 +524,10 @@ public final class Breakpoint {
         }
     }
 
-    /** The least costs of cutting the values up to a number with a number of changes, kept as the segments' costs are. */
+    /**
+     * The least costs of cutting the values up to a number with a number of changes. As with the
+     * segments' costs, what is learnt stays right until all values are removed.
+     */
     private static final class LeastCosts {
         private final int[] least;
         private int learnt;

@@ -77,8 +77,9 @@ public final class SettingsTest {
 
     private static void clearRemovesAll() {
         Breakpoint x = Check.with(0, 0, 100, 3, 200);
+        x.toggleTruth(0);
         x.toggleTruth(2);
-        Check.same("P2 matched ahead", x.matched(0, 5), 1);
+        Check.same("P2 matched ahead", x.matched(0, 5), 2);
         Check.same("P2 changes ahead", x.changes(), 3);
         Check.same("P2 greedyChanges ahead", x.greedyChanges(), 1);
         Check.same("P2 clear", x.clear(), 5);
