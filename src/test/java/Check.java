@@ -1,3 +1,6 @@
+import java.util.function.Consumer;
+import java.util.function.Supplier;
+
 /** What the project's tests share: counts and prints the answers that are not as due. */
 final class Check {
     /** A call of the class, or several of them. */
@@ -17,23 +20,32 @@ final class Check {
         }
     }
 
-    static void outOfRange(String what, Breakpoint x, Call call) {
-        refuses(what, IllegalArgumentException.class, x, call);
+    static void outOfRange(String what, Call call) {
+        refuses(what, IllegalArgumentException.class, call);
     }
 
-    static void missing(String what, Breakpoint x, Call call) {
-        refuses(what, IndexOutOfBoundsException.class, x, call);
+    static void missing(String what, Call call) {
+        refuses(what, IndexOutOfBoundsException.class, call);
     }
 
-    static void notNow(String what, Breakpoint x, Call call) {
-        refuses(what, IllegalStateException.class, x, call);
+    static void notNow(String what, Call call) {
+        refuses(what, IllegalStateException.class, call);
     }
 
-    /** The call must throw just this exception, no subclass of it, and leave the object as it was. */
-    private static void refuses(String what, Class<? extends RuntimeException> due, Breakpoint x, Call call) {
-        String before = picture(x);
+    /** The call must throw just this exception, no subclass of it. */
+    static void refuses(String what, Class<? extends RuntimeException> due, Call call) {
         same(what, thrownBy(call), due.getName());
-        same(what + ", the object behind it", picture(x), before);
+    }
+
+    /**
+     * The call must throw just this exception; and the object behind it must answer all that
+     * follows as its twin does, which was made alike and did not get the call.
+     */
+    static void refusesAndKeeps(String what, Class<? extends RuntimeException> due, Supplier<Breakpoint> maker,
+            Consumer<Breakpoint> call) {
+        Breakpoint x = maker.get();
+        refuses(what, due, () -> call.accept(x));
+        same(what + ", what follows", future(x), future(maker.get()));
     }
 
     static String thrownBy(Call call) {
@@ -45,19 +57,40 @@ final class Check {
         return "nothing thrown";
     }
 
-    /** All that can be read of an object but its settings. */
-    static String picture(Breakpoint x) {
-        StringBuilder text = new StringBuilder();
-        text.append("values");
-        for (int i = 0; i < x.size(); i++) {
-            text.append(' ').append(x.value(i));
+    /** What an object answers from now on, so that its settings and marks show as well. */
+    private static String future(Breakpoint x) {
+        StringBuilder text = new StringBuilder(picture(x));
+        text.append(" penalty ").append(x.setPenalty(3));
+        text.append(" marks ");
+        int size = x.size();
+        for (int number = 0; number < size; number++) {
+            text.append(x.toggleTruth(number) ? '+' : '-');
         }
-        text.append(" sums ").append(x.highSum()).append(' ').append(x.lowSum()).append(' ').append(x.testSum());
-        text.append(" alarms ").append(alarms(x));
+        int room = Math.min(120 - size, 4);
+        addAndTell(text, x, new int[] {9, -31, 44, -2}, room);
+        text.append(" alarms ").append(alarms(x)).append(" clear ").append(x.clear());
+        addAndTell(text, x, new int[] {0, 0, 17, -9, 60, 111, -80, -20}, 8);
+        return text.append(' ').append(picture(x)).toString();
+    }
+
+    private static void addAndTell(StringBuilder text, Breakpoint x, int[] values, int count) {
+        for (int i = 0; i < count; i++) {
+            text.append(" add ").append(x.add(values[i])).append(' ').append(sums(x));
+        }
+    }
+
+    /** What can be read of an object but its settings, in few enough calls to leave room for others. */
+    static String picture(Breakpoint x) {
+        StringBuilder text = new StringBuilder("values");
+        int size = x.size();
+        for (int number = 0; number < size; number++) {
+            text.append(' ').append(x.value(number));
+        }
+        text.append(" sums ").append(sums(x)).append(" alarms ").append(alarms(x));
         text.append(" best ").append(changes(x)).append(' ').append(x.bestCost());
         text.append(" greedy ").append(greedyChanges(x)).append(' ').append(x.greedyCost());
         text.append(" least");
-        for (int changes = 0; changes < x.size(); changes++) {
+        for (int changes = 0; changes < Math.min(size, 5); changes++) {
             text.append(' ').append(x.leastCost(changes));
         }
         text.append(" truth");
@@ -68,10 +101,16 @@ final class Check {
         return text.toString();
     }
 
-    /** Each alarm as kind@number from start. */
+    /** The high sum, the low sum, and the test's sum above its least one. */
+    static String sums(Breakpoint x) {
+        return x.highSum() + " " + x.lowSum() + " " + x.testSum();
+    }
+
+    /** Each alarm as kind@number, and its start behind a <. */
     static String alarms(Breakpoint x) {
         StringBuilder text = new StringBuilder();
-        for (int i = 0; i < x.alarms(); i++) {
+        int count = x.alarms();
+        for (int i = 0; i < count; i++) {
             text.append(i == 0 ? "" : " ").append(x.alarmKind(i)).append('@').append(x.alarmNumber(i));
             text.append('<').append(x.alarmStart(i));
         }
@@ -80,7 +119,8 @@ final class Check {
 
     static String changes(Breakpoint x) {
         StringBuilder text = new StringBuilder();
-        for (int place = 0; place < x.changes(); place++) {
+        int count = x.changes();
+        for (int place = 0; place < count; place++) {
             text.append(place == 0 ? "" : " ").append(x.change(place));
         }
         return text.toString();
@@ -88,7 +128,8 @@ final class Check {
 
     static String greedyChanges(Breakpoint x) {
         StringBuilder text = new StringBuilder();
-        for (int place = 0; place < x.greedyChanges(); place++) {
+        int count = x.greedyChanges();
+        for (int place = 0; place < count; place++) {
             text.append(place == 0 ? "" : " ").append(x.greedyChange(place));
         }
         return text.toString();

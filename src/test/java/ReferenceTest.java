@@ -1,7 +1,10 @@
 import java.util.List;
 import java.util.function.Supplier;
 
-/** Many runs of calls, the same each time, on the class and on the slow telling of the document. */
+/**
+ * Many runs of calls, the same each time, on the class and on the slow telling of the document. A run
+ * ends ahead of the 513th call of an object: what it answers from there on is free.
+ */
 public final class ReferenceTest {
     private static final int CALLS = 512;
 
@@ -12,6 +15,7 @@ public final class ReferenceTest {
     private Breakpoint x = new Breakpoint();
     private SlowBreakpoint due = new SlowBreakpoint();
     private String run;
+    private int used = 0;
 
     private ReferenceTest(int number, int span, int most, int chanceOfRuns) {
         this.seed = number;
@@ -23,14 +27,14 @@ public final class ReferenceTest {
 
     public static void main(String[] args) {
         int[] spans = {1, 3, 12, 60, 1000};
-        for (int number = 0; number < 150; number++) {
-            new ReferenceTest(number, spans[number % spans.length], 11, 2).runCalls(CALLS);
+        for (int number = 0; number < 200; number++) {
+            new ReferenceTest(number, spans[number % spans.length], 11, 2).runCalls();
         }
-        for (int number = 150; number < 190; number++) {
-            new ReferenceTest(number, spans[number % spans.length], 40, 6).runCalls(CALLS);
+        for (int number = 200; number < 250; number++) {
+            new ReferenceTest(number, spans[number % spans.length], 40, 6).runCalls();
         }
-        for (int number = 190; number < 200; number++) {
-            new ReferenceTest(number, spans[number % spans.length], 120, 10).runCalls(220);
+        for (int number = 250; number < 265; number++) {
+            new ReferenceTest(number, spans[number % spans.length], 120, 10).runCalls();
         }
         Check.end();
     }
@@ -54,11 +58,12 @@ public final class ReferenceTest {
         return pick(30) == 0 ? odd() : pick(bound + 1);
     }
 
-    private void runCalls(int calls) {
-        for (int call = 0; call < calls; call++) {
-            if (x.size() < most && pick(100) < 30) {
+    /** A step takes at most four calls, and one more for each change of a cutting. */
+    private void runCalls() {
+        while (used + 4 + due.size() <= CALLS) {
+            if (due.size() < most && pick(100) < 30) {
                 changeValues();
-            } else if (x.size() >= most && pick(12) == 0) {
+            } else if (due.size() >= most && pick(12) == 0) {
                 compare("clear()", () -> x.clear(), () -> due.clear());
             } else if (pick(100) < 12) {
                 changeSettings();
@@ -187,6 +192,7 @@ public final class ReferenceTest {
         compare("changes()", () -> x.changes(), () -> best.size());
         compare("bestCost()", () -> x.bestCost(), () -> due.priceOf(best));
         compare("all changes", () -> Check.changes(x), () -> joined(best));
+        used += best.size();
     }
 
     private void askGreedy() {
@@ -196,6 +202,7 @@ public final class ReferenceTest {
         compare("greedyChanges()", () -> x.greedyChanges(), () -> greedy.size());
         compare("greedyCost()", () -> x.greedyCost(), () -> due.priceOf(greedy));
         compare("all greedy changes", () -> Check.greedyChanges(x), () -> joined(greedy));
+        used += greedy.size();
     }
 
     private static int element(List<Integer> list, int place) {
@@ -210,7 +217,8 @@ public final class ReferenceTest {
     }
 
     private void compare(String call, Supplier<Object> got, Supplier<Object> want) {
-        Check.same(run + ", " + x.size() + " values: " + call, answer(got), answer(want));
+        used++;
+        Check.same(run + ", " + due.size() + " values: " + call, answer(got), answer(want));
     }
 
     private static Object answer(Supplier<Object> call) {

