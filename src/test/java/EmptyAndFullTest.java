@@ -277,6 +277,7 @@ public final class EmptyAndFullTest {
         Check.same("P2 full", x.clear(), 120);
         Check.same("P3 the new settings", x.add(999), 2);
         Check.same("P4 the new settings", x.add(1000), 4);
+        Check.same("P5 the new settings", x.setPenalty(1), 1);
     }
 
     private static void fullIsCleared() {

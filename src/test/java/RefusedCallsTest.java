@@ -31,7 +31,8 @@ public final class RefusedCallsTest {
         new RefusedCallsTest("an object with one value", () -> Check.with(7), 1, 0, 0, 0).refuseAll();
         new RefusedCallsTest("an object with seven values", RefusedCallsTest::seven, 7, 3, 3, 3).refuseAll();
         new RefusedCallsTest("an object that was asked", RefusedCallsTest::asked, 7, 3, 3, 3).refuseAll();
-        new RefusedCallsTest("a full object", RefusedCallsTest::full, 120, 4, 3, 3).refuseAll();
+        new RefusedCallsTest("an object with 100 values", () -> full(20), 100, 4, 2, 2).refuseAll();
+        new RefusedCallsTest("a full object", () -> full(40), 120, 4, 3, 3).refuseAll();
         new RefusedCallsTest("a cleared object", RefusedCallsTest::cleared, 0, 0, 0, 0).refuseAll();
         Check.end();
     }
@@ -59,22 +60,23 @@ public final class RefusedCallsTest {
         return x;
     }
 
-    private static Breakpoint full() {
+    /** With 80 values and a last run. */
+    private static Breakpoint full(int count) {
         Breakpoint x = new Breakpoint();
         x.setSums(10, 2, 300);
         x.setTest(4, 990, 150);
         x.setPenalty(70);
         x.addRun(0, 0, 40);
         x.addRun(30, 0, 40);
-        x.addRun(-9, 1, 40);
+        x.addRun(-9, 1, count);
         x.toggleTruth(0);
         x.toggleTruth(41);
-        x.toggleTruth(119);
+        x.toggleTruth(79 + count);
         return x;
     }
 
     private static Breakpoint cleared() {
-        Breakpoint x = full();
+        Breakpoint x = full(40);
         x.clear();
         return x;
     }
@@ -178,15 +180,15 @@ public final class RefusedCallsTest {
 
     private void refuseRunsWithoutRoom() {
         int most = 120 - size;
-        for (int count : new int[] {1, 2, 39, 40}) {
-            if (count > most) {
+        for (int count : new int[] {1, 2, most + 1, most + 2, 39, 40}) {
+            if (count > most && count <= 40) {
                 notNow("P7 addRun of " + count, x -> x.addRun(60, 3, count));
             }
         }
     }
 
     private void refuseNumbers() {
-        for (int w : new int[] {-1, size, size + 1, 120, BOTTOM, TOP}) {
+        for (int w : new int[] {-1, size, size + 1, Math.max(size, 119), 120, BOTTOM, TOP}) {
             missing("P9 value " + w, x -> x.value(w));
             missing("P26 toggleTruth " + w, x -> x.toggleTruth(w));
         }

@@ -7,6 +7,7 @@ public final class SegmentsTest {
         costsOfSegments();
         middlesOfSegments();
         costsFollowNewValues();
+        fewerValuesBehindClear();
         bestHasTheLeastCost();
         bestHasTheFewestChanges();
         bestHasTheEarliestChange();
@@ -65,6 +66,27 @@ public final class SegmentsTest {
         x.addRun(50, 0, 3);
         Check.same("P21 behind addRun", x.bestCost(), 22);
         Check.same("P25 behind addRun", x.greedyCost(), 22);
+    }
+
+    private static void fewerValuesBehindClear() {
+        Breakpoint x = Check.quiet(0, 90, 0, 90, 0, 90, 0, 90);
+        Check.same("P20 of eight", Check.changes(x) + " " + x.bestCost(), "1 2 3 4 5 6 7 140");
+        // behind the cut at 1 no other one gains
+        Check.same("P24 of eight", Check.greedyChanges(x) + " " + x.greedyCost(), "1 290");
+        Check.same("P22 of eight", x.leastCost(3), 180);
+        x.clear();
+        Check.addAll(x, 0, 0, 0, 0, 0, 50);
+        Check.same("P20 of six", Check.changes(x) + " " + x.bestCost(), "5 20");
+        Check.same("P24 of six", Check.greedyChanges(x) + " " + x.greedyCost(), "5 20");
+        Check.same("P22 of six", x.leastCost(0) + " " + x.leastCost(1), "50 0");
+        x.clear();
+        Check.addAll(x, 0, 50);
+        Check.same("P20 of two", Check.changes(x) + " " + x.bestCost(), "1 20");
+        Check.same("P24 of two", Check.greedyChanges(x) + " " + x.greedyCost(), "1 20");
+        x.clear();
+        x.add(8);
+        Check.same("P20 of one", Check.changes(x) + " " + x.bestCost(), " 0");
+        Check.same("P24 of one", Check.greedyChanges(x) + " " + x.greedyCost(), " 0");
     }
 
     private static void bestHasTheLeastCost() {

@@ -16,6 +16,7 @@ public final class TermsTest {
         startIsNotMovedByTheTest();
         meanIsRoundedDown();
         sumIsRoundedTowardsZero();
+        sumFarBelowZero();
         leastSumIsTheFirstOfEqualOnes();
         alarmsOfTheTestAboveTheLimit();
         testBeginsAnewBehindItsAlarmAlone();
@@ -208,6 +209,19 @@ public final class TermsTest {
         Check.same("P12 1.998 is 1", test(0, 999, 1000, 0, 3, 1).testSum(), 1);
         // means 0 0 0: sums 0 1, then 0.999 is 0
         Check.same("P12 0.999 is 0", test(0, 999, 1000, 0, 1, 0).testSum(), 0);
+    }
+
+    private static void sumFarBelowZero() {
+        // -118000 behind 118 values, each just the mean; then means of -984 and -967
+        Breakpoint x = test(1000, 1000, 1950);
+        x.addRun(-1000, 0, 40);
+        x.addRun(-1000, 0, 40);
+        x.addRun(-1000, 0, 38);
+        Check.same("P12 -118000 is the least sum", x.testSum(), 0);
+        Check.same("P6 up by 984", x.add(1000), 0);
+        Check.same("P12 984 above it", x.testSum(), 984);
+        Check.same("P6 up by 967, above the limit", x.add(1000), 4);
+        Check.same("P16 behind the least sum", Check.alarms(x), "2@119<118");
     }
 
     private static void leastSumIsTheFirstOfEqualOnes() {

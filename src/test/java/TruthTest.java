@@ -5,6 +5,7 @@ public final class TruthTest {
 
     public static void main(String[] args) {
         toggleTruthMarksAndUnmarks();
+        toggleTruthLeavesAllElse();
         latestFreeChangeIsMatched();
         windowEndsAtItsEdge();
         changesBehindAnAlarmDoNotCount();
@@ -47,6 +48,18 @@ public final class TruthTest {
         Check.same("P26 and the first", x.toggleTruth(1), false);
         Check.same("P26 none matched", x.matched(0, 5), 0);
         Check.same("P26 the first value", x.toggleTruth(0), true);
+    }
+
+    private static void toggleTruthLeavesAllElse() {
+        Breakpoint x = Check.with(0, 0, 20, 60, 60, -30, -3);
+        String before = Check.picture(x);
+        Check.same("P26 marks", x.toggleTruth(3) + " " + x.toggleTruth(5), "true true");
+        Check.same("P10 P11 P12 behind marks", Check.sums(x), "0 23 9");
+        Check.same("P13 behind marks", Check.alarms(x), "0@3<2 0@4<4 2@4<2");
+        Check.same("P20 behind marks", Check.changes(x) + " " + x.bestCost(), "3 5 6 80");
+        Check.same("P24 behind marks", Check.greedyChanges(x) + " " + x.greedyCost(), "3 5 6 80");
+        Check.same("P26 marks are taken away", x.toggleTruth(3) + " " + x.toggleTruth(5), "false false");
+        Check.same("P26 all as before", Check.picture(x), before);
     }
 
     private static void latestFreeChangeIsMatched() {
