@@ -431,12 +431,15 @@ public final class Breakpoint {
         private void moveSum(int value, int number) {
             counted++;
             total += value;
-            int mean = Math.floorDiv(total, counted);
-            sum = sum * forgetting / WHOLE + value - mean - allowance;
+            sum = sum * forgetting / WHOLE + value - mean() - allowance;
             if (sum < leastSum) {
                 leastSum = sum;
                 leastNumber = number;
             }
+        }
+
+        private int mean() {
+            return counted > 0 ? Math.floorDiv(total, counted) : 0;
         }
 
         /** The least sum only ever falls, so that it is 0 just as long as none was found. */
